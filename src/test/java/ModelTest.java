@@ -2,7 +2,7 @@ import java.util.Random;
 
 /** Many runs of 512 calls by chance (from set seeds): each answer must be the one that Model gives. */
 public final class ModelTest {
-    private static final int RUNS = 2500;
+    private static final int RUNS = 5000;
     private static final int CALLS = 512;
     private static final int CALLS_AT_ONCE = 13;
 
@@ -41,13 +41,22 @@ public final class ModelTest {
     }
 
     private void play() {
+        boolean all = chance.nextBoolean();
         for (int k = 0; k < itemCount; k++) {
             tellItem(k);
         }
-        int built = 20 + chance.nextInt(200);
+        int built = 20 + chance.nextInt(all ? 80 : 200);
         for (int n = 0; n < built; n++) {
             build();
         }
+        if (all) {
+            askAll();
+        } else {
+            playOn();
+        }
+    }
+
+    private void playOn() {
         while (calls + CALLS_AT_ONCE <= CALLS && check.wrong() == 0) {
             int what = chance.nextInt(100);
             if (what < 6) {
@@ -61,6 +70,26 @@ public final class ModelTest {
             } else {
                 ask();
             }
+        }
+    }
+
+    /** Each set of values, then all of each item and all bytes, as far as the calls last. */
+    private void askAll() {
+        due("shrink()", x.shrink(), model.shrink());
+        for (int f = 0; f < functionCount; f++) {
+            for (int i = 0; model.values(f, i, 0) > 0; i++) {
+                for (int r = 0; r < 4 && calls < CALLS; r++) {
+                    due("values(" + f + ", " + i + ", " + r + ")", x.values(f, i, r), model.values(f, i, r));
+                }
+            }
+        }
+        for (int k = 0; k < itemCount; k++) {
+            for (int what = 0; what < 7 && calls < CALLS; what++) {
+                due("kept(" + k + ", " + what + ")", x.kept(k, what), model.kept(k, what));
+            }
+        }
+        for (int i = 0; calls < CALLS; i++) {
+            due("octet(" + i + ")", x.octet(i), model.octet(i));
         }
     }
 
@@ -107,6 +136,9 @@ public final class ModelTest {
 
     private void tellItem(int k) {
         int size = chance.nextInt(12) == 0 ? some(66) : 1 + some(largest);
+        if (chance.nextInt(10) == 0) {
+            size = 0;
+        }
         int align = chance.nextInt(60) == 0 ? some(10) : 1 << chance.nextInt(4);
         if (chance.nextInt(2) == 0) {
             align = 1;
@@ -127,16 +159,16 @@ public final class ModelTest {
             int n = chance.nextInt(30) == 0 ? some(10) : 8;
             long v = someBytes();
             due("bytes(" + k + ", " + place + ", " + n + ", " + v + ")", x.bytes(k, place, n, v), model.bytes(k, place, n, v));
-        } else if (what < 24) {
+        } else if (what < 26) {
             int k = someItem();
-            int place = some(largest);
+            int place = chance.nextBoolean() ? 0 : some(largest);
             int to = chance.nextInt(5) == 0 ? -1 : someItem();
             due("refer(" + k + ", " + place + ", " + to + ")", x.refer(k, place, to), model.refer(k, place, to));
-        } else if (what < 30) {
+        } else if (what < 32) {
             int f = someFunction();
             boolean is = chance.nextInt(3) > 0;
             due("entry(" + f + ", " + is + ")", x.entry(f, is), model.entry(f, is));
-        } else if (what < 31) {
+        } else if (what < 33) {
             int f = someFunction();
             due("clear(" + f + ")", x.clear(f), model.clear(f));
         } else {
@@ -219,7 +251,7 @@ public final class ModelTest {
                 due("function(" + f + ", " + which + ")", x.function(f, which), model.function(f, which));
                 break;
             case 4:
-                int i = some(40);
+                int i = some(chance.nextInt(4) == 0 ? 40 : 12);
                 int r = some(4);
                 due("values(" + f + ", " + i + ", " + r + ")", x.values(f, i, r), model.values(f, i, r));
                 break;

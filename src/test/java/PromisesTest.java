@@ -23,6 +23,7 @@ public final class PromisesTest {
         promise1();
         promise2();
         promise2Anew();
+        promise2None();
         promise3();
         promise4();
         promise5();
@@ -34,23 +35,31 @@ public final class PromisesTest {
         promise10Memory();
         promise10Skips();
         promise10Ends();
+        promise10Fresh();
         promise11();
         promise11Told();
+        promise11Dropped();
         promise12();
         promise13();
         promise14Orders();
         promise14Eight();
+        promise14Again();
         promise14Alike();
         promise14Tails();
         promise15();
         promise15Groups();
         promise15Why();
+        promise15Again();
         promise16();
+        promise16Places();
         promise17();
         promise18Sums();
+        promise18Words();
         promise18Flow();
         promise18Calls();
+        promise18Forty();
         promise18Memory();
+        promise18Order();
         promise19();
         promise20();
         CHECK.end();
@@ -178,6 +187,30 @@ public final class PromisesTest {
         due("2 none twice", x.item(5, 0, 8, 3, true), true);
         due("2 size 0, wrong align", x.item(5, 0, 3, 0, true), false);
         due("2 none is not vital", x.shrink(), 1);
+    }
+
+    private static void promise2None() {
+        DataShrinker x = withEntry(FOLLOW, 1, 7, 0, OUT, 1, 0, 0, ADD, 0, 1, 0, FOLLOW, 1, 7, 0, OUT, 1, 0, 0);
+        tell(x, 3, 1, 30);
+        tell(x, 4, 1, 40);
+        tell(x, 7, 1, 1, 2);
+        x.refer(7, 0, 3);
+        x.refer(7, 1, 4);
+        due("2 both references", x.run(0), 0);
+        dueOut("2 both references", x, 30, 40);
+        x.item(4, 0, 1, 0, false);
+        due("2 the reference to it went", x.run(0), 1);
+        dueOut("2 the other one stays", x, 30);
+        tell(x, 4, 1, 44);
+        due("2 the reference does not come again", x.run(0), 1);
+        dueOut("2 the reference does not come again", x, 30);
+        x.item(4, 0, 1, 0, false);
+        x.item(5, 0, 1, 2, true);
+        x.item(6, 1, 1, 2, true);
+        x.shrink();
+        due("2 none is kept by being vital or in a group", x.shrunk(0), 3);
+        due("2 none is dropped", x.shrunk(1), 0);
+        due("2 none", x.kept(5, 0), -1);
     }
 
     private static void promise3() {
@@ -359,7 +392,9 @@ public final class PromisesTest {
             FOLLOW, 2, 1, 0, OUT, 2, 0, 0, LOAD, 0, 0, 0, OUT, 0, 0, 0);
         tell(x, 0, 1, 3, 4);
         tell(x, 1, 1, 5, 6);
+        tell(x, 2, 1, 5, 6);
         x.refer(1, 1, 0);
+        x.refer(1, 0, 2);
         due("10 memory", x.run(0), 0);
         dueOut("10 memory", x, 4, 9, 3, 9);
         due("10 bytes as told again", x.run(0), 0);
@@ -416,6 +451,20 @@ public final class PromisesTest {
         due("10 depth", x.run(0), 3);
         due("10 depth", x.ran(1), 16 * 5 - 1);
         due("10 depth", x.ran(3), 4);
+    }
+
+    private static void promise10Fresh() {
+        DataShrinker x = withEntry(OUT, 0, 0, 0, SET, 0, 5, 0);
+        add(x, 5, CALL, 6, 0, 0, ADD, 0, 1, 0, OUT, 0, 0, 0);
+        add(x, 6, SET, 0, 8, 0, RETURN, 0, 0, 0, SET, 0, 9, 0);
+        x.entry(5, true);
+        x.run(0);
+        dueOut("10 registers", x, 0);
+        x.run(0);
+        dueOut("10 registers are 0 again", x, 0);
+        due("10 call and return", x.run(5), 0);
+        dueOut("10 registers are all functions'", x, 9);
+        due("10 call and return", x.ran(1), 5);
     }
 
     private static void promise11() {
@@ -501,6 +550,20 @@ public final class PromisesTest {
         due("11 a dropped one is asked for the place", x.runLaid(0), 1);
         x.input();
         due("11 a dropped one has the place", x.runLaid(0), 0);
+    }
+
+    private static void promise11Dropped() {
+        DataShrinker x = withEntry(
+            SAME, 0, 1, 2, OUT, 0, 0, 0, SAME, 0, 1, 1, OUT, 0, 0, 0, SAME, 0, 8, 9, OUT, 0, 0, 0, SAME, 0, 8, 8, OUT, 0, 0, 0,
+            SAME, 0, 1, 3, OUT, 0, 0, 0, LOAD, 0, 3, 1);
+        tell(x, 1, 1, 5);
+        tell(x, 2, 1, 5);
+        tell(x, 3, 1, 5);
+        due("11 one is kept", x.shrink(), 1);
+        due("11 dropped ones compared", x.runLaid(0), 0);
+        dueOut("11 the same as itself alone", x, 0, 1, 0, 1, 0);
+        due("11 dropped ones compared as told", x.run(0), 0);
+        dueOut("11 dropped ones compared as told", x, 0, 1, 0, 1, 0);
     }
 
     private static void promise12() {
@@ -604,6 +667,28 @@ public final class PromisesTest {
         for (int k = 0; k < 8; k++) {
             due("14 seven, " + k, x.kept(k, 4), want[k]);
         }
+    }
+
+    private static void promise14Again() {
+        DataShrinker x = new DataShrinker();
+        for (int k = 0; k < 7; k++) {
+            x.item(k, k + 1, 1 << k % 4, 0, true);
+            x.bytes(k, k, 1, row(k + 1));
+        }
+        x.shrink();
+        for (int k = 3; k < 7; k++) {
+            x.item(k, 0, 1, 0, false);
+        }
+        x.item(0, 1, 1, 0, true);
+        x.bytes(0, 0, 1, row(1));
+        x.item(1, 3, 2, 0, true);
+        x.bytes(1, 2, 1, row(2));
+        x.item(2, 5, 4, 0, true);
+        x.bytes(2, 4, 1, row(3));
+        due("14 fewer than before", x.shrink(), 9);
+        due("14 fewer, 1", x.kept(1, 4), 0);
+        due("14 fewer, 0", x.kept(0, 4), 3);
+        due("14 fewer, 2", x.kept(2, 4), 4);
     }
 
     private static void promise14Alike() {
@@ -758,6 +843,44 @@ public final class PromisesTest {
         due("15 a load that reads no place", x.kept(0, 6), -1);
     }
 
+    private static void promise15Again() {
+        DataShrinker x = withEntry(LOAD, 2, 0, 0, STORE, 0, 0, 2, SAME, 1, 0, 1, CALL, 1, 0, 0);
+        add(x, 1, OUT, 0, 0, 0);
+        tell(x, 0, 1, 5);
+        tell(x, 1, 1, 5);
+        x.shrink();
+        int[] first = {1, 1, 1, 1, 0, -1, 2};
+        for (int what = 0; what < first.length; what++) {
+            due("15 what is found first, " + what, x.kept(0, what), first[what]);
+        }
+        x.clear(0);
+        x.item(0, 1, 1, 0, true);
+        x.shrink();
+        int[] want = {1, 0, 0, 0, 0, -1, -1};
+        for (int what = 0; what < want.length; what++) {
+            due("15 what was is forgotten, " + what, x.kept(0, what), want[what]);
+        }
+        due("15 compared no more", x.kept(1, 3), 0);
+        for (int what = 0; what < 3; what++) {
+            due("15 come to no more, " + what, x.function(1, what), what < 2 ? 0 : -1);
+        }
+        due("15 come to no more", x.values(1, 0, 0), 0);
+    }
+
+    private static void promise16Places() {
+        DataShrinker x = withEntry(
+            SET, 0, 1, 0, SET, 1, 3, 0, LOAD, 2, 5, 0, LOAD, 2, 5, 1, FOLLOW, 2, 6, 0, FOLLOW, 2, 6, 1);
+        tell(x, 5, 1, 1, 2, 3, 4);
+        tell(x, 6, 1, 5, 6, 7, 8);
+        x.refer(6, 1, 5);
+        x.refer(6, 3, 6);
+        x.shrink();
+        for (int place = 0; place < 4; place++) {
+            due("16 one, three, and first by the reference: " + place, x.read(5, place), place == 2 ? 0 : 1);
+            due("16 one, three, and first by the other: " + place, x.read(6, place), place == 2 ? 0 : 1);
+        }
+    }
+
     private static void promise16() {
         DataShrinker x = withEntry(IN, 0, 0, 0, AND, 0, 5, 0, LOAD, 1, 0, 0, FOLLOW, 1, 1, 0);
         due("16 ahead of any", x.read(0, 0), -1);
@@ -853,6 +976,38 @@ public final class PromisesTest {
         due("18 none any more", x.values(0, 0, 0), -1);
     }
 
+    private static void promise18Words() {
+        DataShrinker x = withEntry(
+            IN, 0, 0, 0, AND, 0, 0xC1, 0, ADD, 0, 64, 0, AND, 0, 0x80, 0, IN, 0, 0, 0, AND, 0, 0x41, 0, ADD, 0, 128, 0,
+            AND, 0, 0x7F, 0, SET, 0, 1, 0, IN, 1, 0, 0, AND, 0, 0xFF, 0, OUT, 0, 0, 0);
+        x.shrink();
+        int[] counts = {1, 256, 8, 8, 2, 256, 4, 4, 4, 1, 1, 1};
+        for (int i = 0; i < counts.length; i++) {
+            dueValues("18 high bits", x, i, counts[i], i > 9 ? 256 : 1, 1, 1);
+        }
+        x = withEntry(SET, 0, 70, 0, ADD, 0, 64, 0, SKIP, 0, 0, 0, AND, 0, 0x3F, 0, LOAD, 1, 0, 0, OUT, 1, 0, 0);
+        x.item(0, 64, 1, 0, false);
+        x.shrink();
+        due("18 134 and 63", x.read(0, 6), 1);
+        due("18 134 and 63", x.kept(0, 1), 1);
+        dueValues("18 one value", x, 3, 1, 1, 1, 1);
+        x = withEntry(SET, 0, 255, 0, ADD, 0, 3, 0, ADD, 0, -4, 0, ADD, 0, 63, 0, OUT, 0, 0, 0);
+        x.shrink();
+        for (int i = 1; i < 5; i++) {
+            dueValues("18 one value goes round", x, i, 1, 1, 1, 1);
+        }
+        x = withEntry(SAME, 0, 1, 1, SKIP, 0, 1, 0, SAME, 0, 1, 2, SKIP, 0, 0, 0, OUT, 0, 0, 0);
+        x.shrink();
+        dueValues("18 one item twice is 1", x, 2, 1);
+        dueValues("18 two items are 0", x, 4, 1);
+        x = withEntry(SAME, 0, 1, 1, SKIP, 0, 1, 0, RETURN, 0, 0, 0, OUT, 0, 0, 0);
+        x.shrink();
+        dueValues("18 one item twice is never 0", x, 3, 0);
+        x = withEntry(SAME, 0, 1, 2, SKIP, 0, 1, 0, OUT, 0, 0, 0);
+        x.shrink();
+        dueValues("18 two items are never 1", x, 2, 0);
+    }
+
     private static void promise18Flow() {
         DataShrinker x = withEntry(SET, 1, 3, 0, SKIP, 1, 2, 0, ADD, 1, -1, 0, SKIP, 0, -3, 0, OUT, 1, 0, 0);
         x.shrink();
@@ -895,6 +1050,55 @@ public final class PromisesTest {
         x.shrink();
         dueValues("18 it never ends", x, 0, 256, 1, 1, 1);
         dueValues("18 it never ends", x, 2, 0, 0, 0, 0);
+    }
+
+    private static void promise18Forty() {
+        DataShrinker x = withEntry(CALL, 1, 0, 0, OUT, 0, 0, 0);
+        for (int i = 0; i < 40; i++) {
+            add(x, 1, ADD, 0, 1, 0);
+        }
+        add(x, 2, CALL, 1, 0, 0, OUT, 0, 0, 0);
+        x.entry(2, true);
+        x.shrink();
+        due("18 fortieth", x.values(1, 39, 0), 1);
+        dueValues("18 the end behind the fortieth", x, 1, 1, 1, 1, 1);
+        due("18 behind another call of it", x.values(2, 1, 0), 1);
+        due("18 all come to", x.function(1, 1), 40);
+    }
+
+    /** The order of things is not asked: what is written later, too, may stand where a load reads. */
+    private static void promise18Order() {
+        DataShrinker x = withEntry(
+            LOAD, 1, 5, 0, OUT, 1, 0, 0, FOLLOW, 2, 6, 0, OUT, 2, 0, 0, SET, 3, 7, 0, STORE, 5, 0, 3, SET, 3, 8, 0,
+            CALL, 2, 0, 0);
+        add(x, 2, STORE, 5, 0, 3);
+        tell(x, 5, 1, 1, 2);
+        tell(x, 6, 1, 3, 4);
+        x.refer(6, 0, 5);
+        x.shrink();
+        dueValues("18 as told, 7 or 8", x, 1, 1, 3, 1, 1);
+        dueValues("18 as told, 7 or 8 by the reference", x, 3, 1, 3, 3, 1);
+        x = withEntry(FOLLOW, 2, 6, 0, OUT, 2, 0, 0, SET, 3, 7, 0, STORE, 5, 0, 3);
+        tell(x, 5, 1, 1, 2);
+        tell(x, 6, 1, 3, 4);
+        x.refer(6, 0, 5);
+        x.shrink();
+        dueValues("18 as told or 7 by the reference alone", x, 1, 1, 1, 2, 1);
+        x = withEntry(LOAD, 1, 5, 0, OUT, 1, 0, 0, IN, 2, 0, 0, SET, 3, 7, 0, STORE, 5, 2, 3);
+        tell(x, 5, 1, 1, 7);
+        x.shrink();
+        dueValues("18 at one of two places it is new", x, 1, 1, 2, 1, 1);
+        x.clear(0);
+        add(x, 0, LOAD, 1, 5, 0, OUT, 1, 0, 0);
+        x.shrink();
+        dueValues("18 written no more", x, 1, 1, 1, 1, 1);
+        x = withEntry(SET, 0, 1, 0, LOAD, 1, 2, 0, OUT, 1, 0, 0, FOLLOW, 1, 2, 0, OUT, 1, 0, 0, IN, 2, 0, 0, STORE, 3, 0, 2);
+        tell(x, 2, 1, 11, 12);
+        tell(x, 3, 1, 13, 14, 15);
+        x.refer(2, 1, 3);
+        x.shrink();
+        dueValues("18 another item is written", x, 2, 1, 1, 1, 1);
+        dueValues("18 another place is written", x, 4, 1, 1, 1, 1);
     }
 
     private static void promise18Memory() {
