@@ -1,21 +1,5 @@
 /** A part for each promise of the document: ordinary inputs, the edges that it names, and wrong inputs. */
-public final class PromisesTest {
-    private static final int SET = 0;
-    private static final int ADD = 1;
-    private static final int AND = 2;
-    private static final int LOAD = 3;
-    private static final int STORE = 4;
-    private static final int CALL = 5;
-    private static final int SKIP = 6;
-    private static final int OUT = 7;
-    private static final int RETURN = 8;
-    private static final int IN = 9;
-    private static final int SAME = 10;
-    private static final int FOLLOW = 11;
-    private static final int[] ODD = {-1, Integer.MIN_VALUE, Integer.MAX_VALUE};
-
-    private static final Check CHECK = new Check("promises");
-
+public final class PromisesTest extends HandMade {
     private PromisesTest() {
     }
 
@@ -63,61 +47,6 @@ public final class PromisesTest {
         promise19();
         promise20();
         CHECK.end();
-    }
-
-    private static void due(String call, long got, long want) {
-        CHECK.due(call, got, want);
-    }
-
-    private static void due(String call, boolean got, boolean want) {
-        CHECK.due(call, got, want);
-    }
-
-    /** Bytes for a v, the first one highest. */
-    private static long row(int... octets) {
-        long v = 0;
-        for (int i = 0; i < 8; i++) {
-            v = v << 8 | (i < octets.length ? octets[i] : 0);
-        }
-        return v;
-    }
-
-    private static DataShrinker withEntry(int... code) {
-        DataShrinker x = new DataShrinker();
-        x.entry(0, true);
-        add(x, 0, code);
-        return x;
-    }
-
-    /** Instructions of four numbers each. */
-    private static void add(DataShrinker x, int f, int... code) {
-        for (int i = 0; i < code.length; i += 4) {
-            if (x.code(f, code[i], code[i + 1], code[i + 2], code[i + 3]) == DataShrinker.NONE) {
-                due("code of instruction " + i / 4, -1, 0);
-            }
-        }
-    }
-
-    private static void tell(DataShrinker x, int k, int align, int... octets) {
-        due("item " + k, x.item(k, octets.length, align, 0, false), true);
-        for (int i = 0; i < octets.length; i++) {
-            x.bytes(k, i, 1, row(octets[i]));
-        }
-    }
-
-    private static void dueOut(String what, DataShrinker x, int... octets) {
-        due(what + ": ran(0)", x.ran(0), octets.length);
-        for (int i = 0; i < octets.length; i++) {
-            due(what + ": out(" + i + ")", x.out(i), octets[i]);
-        }
-        due(what + ": out behind", x.out(octets.length), -1);
-    }
-
-    /** How each register is counted ahead of an instruction of function 0. */
-    private static void dueValues(String what, DataShrinker x, int i, int... counts) {
-        for (int r = 0; r < counts.length; r++) {
-            due(what + ": values(0, " + i + ", " + r + ")", x.values(0, i, r), counts[r]);
-        }
     }
 
     private static void promise1() {
@@ -1162,13 +1091,6 @@ public final class PromisesTest {
         x.shrink();
         x.runLaid(0);
         due("19 a run's store is the run's alone", x.octet(0), 8);
-    }
-
-    private static void dueOctets(String what, DataShrinker x, int... octets) {
-        for (int i = 0; i < octets.length; i++) {
-            due(what + ": octet(" + i + ")", x.octet(i), octets[i]);
-        }
-        due(what + ": octet behind", x.octet(octets.length), -1);
     }
 
     private static void promise20() {
