@@ -72,7 +72,7 @@ final class SentencesOfLaying extends Sentences {
         due("with itself, at no place, and not come to", x.shrink(), 3);
         due("not written", x.kept(4, 2), 0);
         due("not compared", x.kept(4, 3), 0);
-        add(x, 1, STORE, 4, 0, 0, SAME, 0, 4, 5);
+        add(x, 1, SAME, 0, 4, 5, STORE, 4, 0, 0);
         due("by code that is not come to", x.shrink(), 3);
         x.entry(1, true);
         due("by code that is come to now", x.shrink(), 6);
@@ -82,7 +82,9 @@ final class SentencesOfLaying extends Sentences {
 
     private static void alike() {
         sentence(
-            14, "Of STILL ones that are alike (SIZE, all bytes) the least stands for all (with the greatest ALIGN of them).");
+            14,
+            "Of STILL ones that are alike (SIZE, all bytes) the least stands for all"
+                + " (with the greatest ALIGN of them).");
         DataShrinker x = new DataShrinker();
         for (int k = 0; k < 24; k++) {
             x.item(k, 64, 1, 0, true);
@@ -206,10 +208,17 @@ final class SentencesOfLaying extends Sentences {
         due("the fourth is the longest", x.kept(6, 5), -1);
         tellVital(x, 6, 1, 4);
         tellVital(x, 3, 1, 1, 2, 3, 4);
-        due("by numbers, the longest first", x.shrink(), 4);
+        due("the longest may come first", x.shrink(), 4);
         for (int k = 4; k < 7; k++) {
             due("all within the first, " + k, x.kept(k, 5), 3);
         }
+        x = new DataShrinker();
+        tellVital(x, 0, 1, 4);
+        tellVital(x, 1, 1, 3, 4);
+        tellVital(x, 2, 1, 2, 3, 4);
+        due("item 0 is one that is laid within", x.shrink(), 5);
+        due("item 0 is one that is laid within", x.kept(1, 5), -1);
+        due("item 0 is one that is laid within", x.shrunk(5), 1);
     }
 
     private static void endsWithItsBytes() {
@@ -287,16 +296,9 @@ final class SentencesOfLaying extends Sentences {
         int[] sizes = {1, 1, 1, 1, 3, 5, 8, 9, 1, 64, 1};
         int[] aligns = {1, 2, 4, 8, 1, 4, 8, 2, 2, 1, 8};
         int[] addresses = {0, 2, 4, 8, 9, 12, 24, 32, 42, 43, 112};
-        DataShrinker x = new DataShrinker();
-        for (int k = 0; k < sizes.length; k++) {
-            x.item(k, sizes[k], aligns[k], 0, true);
-            x.bytes(k, 0, 1, row(k + 1));
-            x.bytes(k, sizes[k] - 1, 1, row(k + 101));
-        }
+        DataShrinker x = vitals(sizes, aligns);
         due("bytes", x.shrink(), 113);
-        for (int k = 0; k < sizes.length; k++) {
-            due("address of " + k, x.kept(k, 4), addresses[k]);
-        }
+        dueAddresses("eleven", x, addresses);
         due("blocks", x.shrunk(3), 11);
         x = withEntry(STORE, 3, 0, 0);
         for (int k = 3; k < 8; k++) {
@@ -311,7 +313,7 @@ final class SentencesOfLaying extends Sentences {
         due("at 0", x.kept(9, 4), 0);
     }
 
-    /** Vital items from 0 on, none alike and none a tail of another; the bytes as laid. */
+    /** Vital items from 0 on, none alike and none a tail of another. */
     private static DataShrinker vitals(int[] sizes, int[] aligns) {
         DataShrinker x = new DataShrinker();
         for (int k = 0; k < sizes.length; k++) {
@@ -341,6 +343,18 @@ final class SentencesOfLaying extends Sentences {
         x = vitals(new int[] {5, 8, 3, 7, 1, 6, 2}, new int[] {8, 8, 8, 8, 8, 8, 8});
         due("nothing counts behind the last one", x.shrink(), 49);
         dueAddresses("the one byte goes last", x, 0, 8, 16, 24, 48, 32, 40);
+        for (int k = 3; k < 7; k++) {
+            x.item(k, 0, 1, 0, true);
+        }
+        tellVital(x, 0, 1, 1);
+        tellVital(x, 1, 2, 2, 2, 2);
+        tellVital(x, 2, 4, 3, 3, 3, 3, 3);
+        due("three where seven were", x.shrink(), 9);
+        dueAddresses("three where seven were", x, 3, 0, 4);
+        tellVital(x, 1, 1, 2, 2, 2);
+        tellVital(x, 2, 4, 3, 3, 3, 3);
+        due("three without a gap", x.shrink(), 8);
+        dueAddresses("three without a gap", x, 0, 1, 4);
     }
 
     private static void firstByNumbers() {
@@ -433,6 +447,13 @@ final class SentencesOfLaying extends Sentences {
         tell(x, 4, 8, 9);
         x.shrink();
         dueOctets("what was there is gone", x, 1, 2, 253);
+        x = new DataShrinker();
+        tellVital(x, 2, 8, 255, 254, 253, 252, 251, 250, 249, 248, 247);
+        x.shrink();
+        tellVital(x, 2, 8, 1);
+        tellVital(x, 3, 8, 2);
+        x.shrink();
+        dueOctets("0 where bytes were", x, 1, 0, 0, 0, 0, 0, 0, 0, 2);
     }
 
     private static void counts() {

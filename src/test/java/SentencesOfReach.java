@@ -134,6 +134,25 @@ final class SentencesOfReach extends Sentences {
         x.item(5, 64, 1, 0, false);
         x.shrink();
         dueRead("200, and 56 more", x, 5, 0);
+        for (int v : new int[] {21, 85, 149, 213}) {
+            for (int mask : new int[] {0x1F, 0x3F, 0x5F, 0x7F, 0x9F, 0xBF, 0xDF, 0xFF, 0xC0, 0x80, 0x40}) {
+                dueMasked(v, mask);
+            }
+        }
+    }
+
+    /** Two values and the mask, moved to where they can be read; another register's set comes between. */
+    private static void dueMasked(int v, int mask) {
+        int low = v & mask;
+        int high = v + 1 & mask;
+        int least = Math.min(low, high);
+        DataShrinker x = withEntry(
+            IN, 0, 0, 0, AND, 0, 1, 0, ADD, 0, v, 0, SET, 1, 40, 0, AND, 0, mask, 0, ADD, 0, -least, 0, LOAD, 2, 5, 0,
+            OUT, 0, 0, 0);
+        x.item(5, 64, 1, 0, false);
+        x.shrink();
+        dueRead(v + ", one more, and " + mask, x, 5, low - least, high - least);
+        dueValues(v + ", one more, and " + mask, x, 7, low == high ? 1 : 2, 1, 1, 1);
     }
 
     /** Each value of 0 to 255 and the mask, and n: those below 64 are read. */
@@ -159,7 +178,8 @@ final class SentencesOfReach extends Sentences {
     private static void loads() {
         sentence(
             16, "LOAD: the bytes that may stand at places of q's set that the ITEM has (READ are these places);");
-        DataShrinker x = withEntry(IN, 0, 0, 0, LOAD, 1, 5, 0, OUT, 1, 0, 0, LOAD, 2, 6, 1, OUT, 2, 0, 0, LOAD, 0, 5, 0, OUT, 0, 0, 0);
+        DataShrinker x = withEntry(
+            IN, 0, 0, 0, LOAD, 1, 5, 0, OUT, 1, 0, 0, LOAD, 2, 6, 1, OUT, 2, 0, 0, LOAD, 0, 5, 0, OUT, 0, 0, 0);
         tell(x, 5, 1, 6, 63, 6);
         x.item(6, 64, 1, 0, false);
         x.shrink();
@@ -218,6 +238,16 @@ final class SentencesOfReach extends Sentences {
         tell(x, 5, 1, 10);
         x.shrink();
         dueValues("all 256 at the one place", x, 4, 256, 256, 256, 1);
+        x = withEntry(
+            IN, 0, 0, 0, SET, 1, 9, 0, STORE, 22, 0, 1, LOAD, 2, 23, 3, OUT, 2, 0, 0, STORE, 23, 0, 1, LOAD, 2, 22, 3);
+        x.item(22, 64, 1, 0, false);
+        x.item(23, 64, 1, 0, false);
+        x.shrink();
+        dueValues("at all 64 places of the last item", x, 4, 256, 1, 2, 1);
+        x.clear(0);
+        add(x, 0, IN, 0, 0, 0, SET, 1, 9, 0, STORE, 22, 0, 1, LOAD, 2, 23, 3, OUT, 2, 0, 0);
+        x.shrink();
+        dueValues("at none of the next item", x, 4, 256, 1, 1, 1);
         sentence(18, "without one nothing goes on.");
         for (int size : new int[] {0, 1, 63, 64}) {
             for (int place : new int[] {size, 64, 255}) {
@@ -240,8 +270,8 @@ final class SentencesOfReach extends Sentences {
     private static void sames() {
         sentence(15, "SAME: {1} for one ITEM twice, else {0} (COMPARED are both ITEMS, if they are two).");
         DataShrinker x = withEntry(
-            IN, 1, 0, 0, SAME, 1, 4, 4, LOAD, 2, 9, 1, IN, 1, 0, 0, SAME, 1, 5, 6, LOAD, 2, 10, 1, SAME, 3, 7, 3, OUT, 3, 0, 0,
-            RETURN, 0, 0, 0, SAME, 3, 0, 1);
+            IN, 1, 0, 0, SAME, 1, 4, 4, LOAD, 2, 9, 1, IN, 1, 0, 0, SAME, 1, 5, 6, LOAD, 2, 10, 1, SAME, 3, 7, 3,
+            OUT, 3, 0, 0, RETURN, 0, 0, 0, SAME, 3, 0, 1);
         for (int k = 0; k < 8; k++) {
             if (k != 3) {
                 tell(x, k, 1, 9);
@@ -295,6 +325,19 @@ final class SentencesOfReach extends Sentences {
         due("a reference that is not followed", x.kept(8, 1), 0);
         dueRead("60, 61, and what is stored: 40 and 0", x, 9, 0, 40, 60, 61);
         dueValues("60, 61, and what is stored: 40 and 0", x, 4, 8, 4, 2, 1);
+        x = withEntry(IN, 0, 0, 0, FOLLOW, 1, 22, 0, OUT, 1, 0, 0);
+        x.item(22, 64, 1, 0, false);
+        x.item(23, 64, 1, 0, false);
+        tell(x, 0, 1, 8);
+        for (int place = 0; place < 64; place++) {
+            x.refer(22, place, 23);
+            x.refer(23, place, 0);
+        }
+        x.shrink();
+        due("all places", x.kept(22, 1), 64);
+        due("the first place they lead to", x.kept(23, 1), 1);
+        due("not on from there", x.kept(0, 1), 0);
+        dueValues("the first byte they lead to", x, 2, 256, 1, 1, 1);
         x = withEntry(SET, 0, 63, 0, FOLLOW, 0, 5, 0, OUT, 0, 0, 0);
         x.item(5, 64, 1, 0, false);
         x.refer(5, 63, 5);
@@ -344,11 +387,18 @@ final class SentencesOfReach extends Sentences {
         dueRead("without 0", x, 5, 1, 32, 33);
         dueValues("without 0", x, 4, 3, 1, 1, 1);
         dueValues("together again", x, 5, 4, 1, 1, 1);
-        x = withEntry(SKIP, 0, 1, 0, OUT, 0, 0, 0, SET, 0, 64, 0, SKIP, 0, 0, 0, SET, 0, 255, 0, SKIP, 0, 1, 0, OUT, 0, 0, 0);
+        x = withEntry(
+            SKIP, 0, 1, 0, OUT, 0, 0, 0, SET, 0, 64, 0, SKIP, 0, 0, 0, SET, 0, 255, 0, SKIP, 0, 1, 0, OUT, 0, 0, 0);
         x.shrink();
         dueValues("no rest", x, 1, 0, 0, 0, 0);
         dueValues("64 is a rest", x, 4, 1, 1, 1, 1);
         dueValues("255 is a rest", x, 6, 1, 1, 1, 1);
+        for (int v : new int[] {1, 63, 64, 127, 128, 191, 192, 255}) {
+            x = withEntry(SET, 0, v, 0, SKIP, 0, 1, 0, OUT, 0, 0, 0, OUT, 1, 0, 0);
+            x.shrink();
+            dueValues(v + " goes on", x, 2, 1, 1, 1, 1);
+            dueValues(v + " goes on", x, 3, 1, 1, 1, 1);
+        }
         x = withEntry(IN, 0, 0, 0, SKIP, 0, 0, 0, OUT, 0, 0, 0, SKIP, 0, -1, 0, OUT, 0, 0, 0);
         x.shrink();
         dueValues("both to the next one", x, 2, 256, 1, 1, 1);
@@ -400,10 +450,17 @@ final class SentencesOfReach extends Sentences {
         tell(x, 5, 1, 8);
         x.shrink();
         dueValues("as told alone", x, 1, 1, 1, 1, 1);
+        x.bytes(5, 0, 1, row(9));
+        x.shrink();
+        dueValues("as told now", x, 1, 1, 1, 1, 1);
         x = withEntry(LOAD, 1, 5, 0, ADD, 1, 1, 0, STORE, 5, 0, 1, OUT, 1, 0, 0);
         tell(x, 5, 1, 8);
         x.shrink();
         dueValues("what is stored is loaded, round and round", x, 3, 1, 256, 1, 1);
+        x.clear(0);
+        add(x, 0, LOAD, 1, 5, 0, OUT, 1, 0, 0);
+        x.shrink();
+        dueValues("at first, anew", x, 1, 1, 1, 1, 1);
         x = withEntry(OUT, 0, 0, 0, ADD, 0, 1, 0, SKIP, 1, -3, 0);
         x.shrink();
         dueValues("one more each time", x, 0, 256, 1, 1, 1);
@@ -465,6 +522,14 @@ final class SentencesOfReach extends Sentences {
         add(x, 0, STORE, 5, 0, 0, LOAD, 1, 5, 0, OUT, 1, 0, 0);
         x.shrink();
         dueValues("the byte as told may stand though it is overwritten", x, 2, 1, 2, 1, 1);
+        x = new DataShrinker();
+        add(x, 9, FOLLOW, 1, 6, 0, OUT, 1, 0, 0, STORE, 5, 0, 0);
+        x.entry(9, true);
+        tell(x, 5, 1, 8);
+        tell(x, 6, 1, 7);
+        x.refer(6, 0, 5);
+        x.shrink();
+        due("0 is stored later where a reference leads", x.values(9, 1, 1), 2);
     }
 
     private static void keptThings() {
@@ -472,7 +537,8 @@ final class SentencesOfReach extends Sentences {
             15,
             "KEPT are FUNCTIONS that are come to, VITAL ITEMS, ITEMS of which a place is READ,"
                 + " and all of a GROUP (with a SIZE) of which one is kept.");
-        DataShrinker x = withEntry(CALL, 1, 0, 0, LOAD, 0, 5, 0, FOLLOW, 0, 6, 3, RETURN, 0, 0, 0, CALL, 3, 0, 0, LOAD, 0, 8, 0);
+        DataShrinker x = withEntry(
+            CALL, 1, 0, 0, LOAD, 0, 5, 0, FOLLOW, 0, 6, 3, RETURN, 0, 0, 0, CALL, 3, 0, 0, LOAD, 0, 8, 0);
         add(x, 4, OUT, 0, 0, 0);
         x.item(5, 1, 1, 0, false);
         x.item(6, 1, 1, 0, false);
@@ -513,6 +579,13 @@ final class SentencesOfReach extends Sentences {
         x.shrink();
         due("by one that is read", x.kept(17, 0), 1);
         due("not read itself", x.kept(17, 1), 0);
+        for (int k = 0; k < 24; k++) {
+            x = new DataShrinker();
+            x.item(k, 1, 1, 2, true);
+            x.item(23 - k, 1, 1, 2, false);
+            x.shrink();
+            due("by " + k, x.kept(23 - k, 0), 1);
+        }
     }
 
     private static void dropped() {
@@ -553,6 +626,19 @@ final class SentencesOfReach extends Sentences {
         x.entry(2, false);
         x.shrink();
         due("no entry at all", x.function(2, 2), -1);
+        due("no entry at all", x.function(0, 2), -1);
+        x = new DataShrinker();
+        add(x, 1, CALL, 2, 0, 0, LOAD, 0, 5, 0);
+        x.entry(1, true);
+        x.item(5, 1, 1, 0, false);
+        x.shrink();
+        due("neither an entry nor called", x.function(0, 2), -1);
+        due("called", x.function(2, 2), 2);
+        due("read", x.kept(5, 6), 2);
+        x.clear(1);
+        x.shrink();
+        due("called no more", x.function(2, 2), -1);
+        due("read no more", x.kept(5, 6), -1);
         sentence(17, "FUNCTION to FUNCTION by a CALL come to;");
         x = withEntry(CALL, 1, 0, 0, SET, 0, 1, 0, SKIP, 0, 1, 0, CALL, 2, 0, 0, RETURN, 0, 0, 0, CALL, 3, 0, 0);
         add(x, 1, CALL, 4, 0, 0);
@@ -789,6 +875,11 @@ final class SentencesOfReach extends Sentences {
         due("kept now", x.function(11, 0), 1);
         due("all forty", x.function(11, 1), 40);
         due("an entry", x.function(11, 2), 1);
+        x.entry(11, false);
+        x.shrink();
+        due("no entry any more", x.function(11, 0), 0);
+        due("no entry any more", x.function(11, 1), 0);
+        due("no entry any more", x.function(11, 2), -1);
         sentence(17, "NONE without it, or for another what.");
         due("function 12", x.function(12, 0), -1);
         due("what 3", x.function(0, 3), -1);
@@ -818,6 +909,19 @@ final class SentencesOfReach extends Sentences {
         add(x, 11, OUT, 0, 0, 0, OUT, 0, 0, 0);
         x.shrink();
         due("by the latest shrink()", x.values(11, 1, 0), 1);
+        x = new DataShrinker();
+        x.entry(0, true);
+        for (int n = 5; n < 8; n++) {
+            x.clear(0);
+            x.clear(1);
+            add(x, 0, SET, 0, n, 0, CALL, 1, 0, 0, OUT, 0, 0, 0);
+            add(x, 1, SET, 3, n, 0, OUT, 0, 0, 0);
+            x.shrink();
+            for (int r = 0; r < 4; r++) {
+                due("nothing of the shrink() ahead, at its begin", x.values(1, 0, r), 1);
+                due("nothing of the shrink() ahead, what it returns", x.values(0, 2, r), 1);
+            }
+        }
     }
 
     private static void valuesNone() {

@@ -47,6 +47,13 @@ final class SentencesOfRuns extends Sentences {
         DataShrinker x = withEntry(ADD, 0, 1, 0, ADD, 0, -3, 0, SKIP, 0, 2, 0, ADD, 0, 3, 0, CALL, 0, 0, 0, OUT, 0, 0, 0);
         due("not when the same function returns to itself", x.run(0), 0);
         dueOut("three are open", x, 0, 0, 0);
+        x = new DataShrinker();
+        add(x, 9, CALL, 7, 0, 0, ADD, 0, 1, 0, OUT, 0, 0, 0);
+        add(x, 7, CALL, 3, 0, 0, ADD, 0, 2, 0, OUT, 0, 0, 0);
+        add(x, 3, SET, 0, 100, 0, OUT, 0, 0, 0);
+        x.entry(9, true);
+        due("each returns to the one that called it", x.run(9), 0);
+        dueOut("each returns to the one that called it", x, 100, 102, 103);
         x = withEntry(OUT, 0, 0, 0, RETURN, 0, 0, 0, OUT, 0, 0, 0);
         due("in its midst", x.run(0), 0);
         due("in its midst", x.ran(0), 1);
@@ -166,7 +173,8 @@ final class SentencesOfRuns extends Sentences {
     private static void depth() {
         sentence(10, "3 DEPTH: a CALL with 16 FUNCTIONS open (the ENTRY is one).");
         for (int open = 1; open <= 20; open++) {
-            DataShrinker x = withEntry(ADD, 0, 1, 0, ADD, 0, -open, 0, SKIP, 0, 2, 0, ADD, 0, open, 0, CALL, 0, 0, 0, OUT, 0, 0, 0);
+            DataShrinker x = withEntry(
+                ADD, 0, 1, 0, ADD, 0, -open, 0, SKIP, 0, 2, 0, ADD, 0, open, 0, CALL, 0, 0, 0, OUT, 0, 0, 0);
             boolean ends = open <= 16;
             due("open " + open, x.run(0), ends ? 0 : 3);
             due("open " + open, x.ran(0), ends ? open : 0);
@@ -201,8 +209,8 @@ final class SentencesOfRuns extends Sentences {
         }
     }
 
-    private static void howItEnds() {
-        sentence(10, "A RUN from an ENTRY of the program as told: how it ends;");
+    /** The entries 8 to 11 end with 0 to 3. */
+    private static DataShrinker fourEnds() {
         DataShrinker x = new DataShrinker();
         add(x, 8, OUT, 0, 0, 0);
         add(x, 9, OUT, 0, 0, 0, LOAD, 0, 0, 0);
@@ -210,6 +218,14 @@ final class SentencesOfRuns extends Sentences {
         add(x, 11, CALL, 11, 0, 0);
         for (int f = 8; f < 12; f++) {
             x.entry(f, true);
+        }
+        return x;
+    }
+
+    private static void howItEnds() {
+        sentence(10, "A RUN from an ENTRY of the program as told: how it ends;");
+        DataShrinker x = fourEnds();
+        for (int f = 8; f < 12; f++) {
             due("end of " + f, x.run(f), f - 8);
         }
         x.item(0, 1, 1, 0, false);
@@ -219,6 +235,14 @@ final class SentencesOfRuns extends Sentences {
         add(x, 9, OUT, 0, 0, 0);
         due("as told, not as laid", x.run(9), 0);
         dueOut("as told, not as laid", x, 0, 5);
+        tellVital(x, 1, 8, 1);
+        tellVital(x, 2, 1, 9, 5);
+        x.shrink();
+        due("its address is another one", x.kept(0, 4), 2);
+        due("as laid", x.runLaid(9), 0);
+        dueOut("as laid", x, 0, 5);
+        due("as told behind that", x.run(9), 0);
+        dueOut("as told behind that", x, 0, 5);
     }
 
     private static void noEntry() {
@@ -245,14 +269,7 @@ final class SentencesOfRuns extends Sentences {
 
     private static void asLaid() {
         sentence(11, "A RUN from an ENTRY of the program as it was LAID by the latest shrink(): likewise;");
-        DataShrinker x = new DataShrinker();
-        add(x, 8, OUT, 0, 0, 0);
-        add(x, 9, OUT, 0, 0, 0, LOAD, 0, 0, 0);
-        add(x, 10, OUT, 0, 0, 0, SKIP, 0, -1, 0);
-        add(x, 11, CALL, 11, 0, 0);
-        for (int f = 8; f < 12; f++) {
-            x.entry(f, true);
-        }
+        DataShrinker x = fourEnds();
         x.shrink();
         int[] done = {1, 1, 2000, 15};
         for (int f = 8; f < 12; f++) {
@@ -428,9 +445,10 @@ final class SentencesOfRuns extends Sentences {
     private static void sameLaid() {
         sentence(11, "SAME compares addresses (a DROPPED one is the same as itself alone).");
         DataShrinker x = withEntry(
-            SAME, 0, 3, 4, OUT, 0, 0, 0, SAME, 0, 3, 3, OUT, 0, 0, 0, SAME, 0, 5, 6, OUT, 0, 0, 0, SAME, 0, 5, 5, OUT, 0, 0, 0,
-            SAME, 0, 3, 5, OUT, 0, 0, 0, SAME, 0, 5, 3, OUT, 0, 0, 0, SAME, 0, 7, 7, OUT, 0, 0, 0, SAME, 0, 7, 9, OUT, 0, 0, 0,
-            SAME, 0, 10, 10, OUT, 0, 0, 0, LOAD, 0, 3, 1, OUT, 0, 0, 0, LOAD, 0, 4, 1);
+            SAME, 0, 3, 4, OUT, 0, 0, 0, SAME, 0, 3, 3, OUT, 0, 0, 0, SAME, 0, 5, 6, OUT, 0, 0, 0,
+            SAME, 0, 5, 5, OUT, 0, 0, 0, SAME, 0, 3, 5, OUT, 0, 0, 0, SAME, 0, 5, 3, OUT, 0, 0, 0,
+            SAME, 0, 7, 7, OUT, 0, 0, 0, SAME, 0, 7, 9, OUT, 0, 0, 0, SAME, 0, 10, 10, OUT, 0, 0, 0,
+            LOAD, 0, 3, 1, OUT, 0, 0, 0, LOAD, 0, 4, 1);
         for (int k = 3; k < 7; k++) {
             tell(x, k, 1, 8);
         }

@@ -354,7 +354,8 @@ final class SentencesOfTelling extends Sentences {
         due("both are counted", x.ran(1), 4);
         sentence(10, "9 IN r: the next INPUT byte, 0 behind all;");
         dueLimits(IN, new int[] {0, 0, 0}, new int[] {3, 0, 0});
-        x = withEntry(SET, 1, 7, 0, IN, 1, 0, 0, OUT, 1, 0, 0, SET, 1, 7, 0, IN, 1, 0, 0, OUT, 1, 0, 0, IN, 3, 0, 0, OUT, 3, 0, 0);
+        x = withEntry(
+            SET, 1, 7, 0, IN, 1, 0, 0, OUT, 1, 0, 0, SET, 1, 7, 0, IN, 1, 0, 0, OUT, 1, 0, 0, IN, 3, 0, 0, OUT, 3, 0, 0);
         due("run without input", x.run(0), 0);
         dueOut("without input", x, 0, 0, 0);
         x.input(1, row(255, 9, 9));
@@ -377,7 +378,8 @@ final class SentencesOfTelling extends Sentences {
         dueOut("alike ones, and ones without a size", x, 1, 0, 0, 1, 0);
         sentence(10, "11 FOLLOW r ITEM q: the first byte of the ITEM to which the REFERENCE at place q leads.");
         dueLimits(FOLLOW, new int[] {0, 0, 0}, new int[] {3, 23, 3});
-        x = withEntry(FOLLOW, 1, 23, 0, OUT, 1, 0, 0, SET, 0, 2, 0, FOLLOW, 1, 23, 0, OUT, 1, 0, 0, FOLLOW, 0, 23, 0, OUT, 0, 0, 0);
+        x = withEntry(
+            FOLLOW, 1, 23, 0, OUT, 1, 0, 0, SET, 0, 2, 0, FOLLOW, 1, 23, 0, OUT, 1, 0, 0, FOLLOW, 0, 23, 0, OUT, 0, 0, 0);
         tell(x, 23, 1, 9, 8, 7);
         tell(x, 0, 1, 255, 6);
         x.refer(23, 0, 23);
@@ -524,12 +526,11 @@ final class SentencesOfTelling extends Sentences {
         sentence(2, "(SIZE 0 also: it is none then, and REFERENCES to it go).");
         DataShrinker x = withEntry(IN, 0, 0, 0, FOLLOW, 1, 5, 0, OUT, 1, 0, 0);
         for (int k = 0; k < 24; k++) {
-            due("item " + k, x.item(k, 24, 8, 3, true), true);
+            due("item " + k, x.item(k, 64, 8, 3, true), true);
             due("first byte", x.bytes(k, 0, 1, row(k + 1)), 1);
         }
         for (int place = 0; place < 24; place++) {
             x.refer(5, place, place);
-            x.refer(23, place, 6);
         }
         due("size 0", x.item(6, 0, 8, 3, true), true);
         due("none then", x.bytes(6, 0, 1, 0), -1);
@@ -546,7 +547,7 @@ final class SentencesOfTelling extends Sentences {
         due("neither kept, vital though it was", x.shrunk(0), 23);
         due("nor dropped", x.shrunk(1), 0);
         due("none then", x.kept(6, 0), -1);
-        due("told once more", x.item(6, 24, 8, 3, true), true);
+        due("told once more", x.item(6, 64, 8, 3, true), true);
         x.input();
         x.input(1, row(6));
         due("the reference does not come again", x.run(0), 1);
@@ -554,14 +555,23 @@ final class SentencesOfTelling extends Sentences {
         due("none twice", x.item(7, 0, 1, 0, false), true);
         due("one that refers to itself", x.item(5, 0, 1, 0, false), true);
         due("one that refers to itself", x.run(0), 1);
-        x = new DataShrinker();
-        x.item(1, 1, 1, 0, true);
-        x.item(2, 1, 1, 0, true);
-        x.item(3, 1, 1, 0, false);
-        x.refer(2, 0, 3);
-        due("with a reference it is not still", x.shrink(), 2);
-        x.item(3, 0, 1, 0, false);
-        due("without one it is", x.shrink(), 1);
+        referencesToItGo();
+    }
+
+    /** An item that has a reference is not still, so that it is not made one with those that are alike. */
+    private static void referencesToItGo() {
+        for (int k = 0; k < 23; k++) {
+            DataShrinker x = new DataShrinker();
+            x.item(23, 64, 1, 0, true);
+            x.item(k, 64, 1, 0, true);
+            x.item((k + 1) % 23, 1, 1, 0, false);
+            for (int place = 0; place < 64; place++) {
+                x.refer(k, place, (k + 1) % 23);
+            }
+            due("with references of " + k, x.shrink(), 128);
+            x.item((k + 1) % 23, 0, 1, 0, false);
+            due("without one of " + k, x.shrink(), 64);
+        }
     }
 
     private static void bytesGo() {
@@ -629,10 +639,22 @@ final class SentencesOfTelling extends Sentences {
         due("to none any more", x.refer(5, 0, -1), true);
         due("to none any more", x.run(0), 1);
         due("to none where none was", x.refer(5, 0, -1), true);
+        x.shrink();
+        due("none is followed", x.kept(5, 1), 0);
         x.clear(0);
         add(x, 0, SET, 0, 1, 0, FOLLOW, 1, 5, 0, OUT, 1, 0, 0);
         due("the next place's stays", x.run(0), 0);
         dueOut("the next place's stays", x, 10);
+        due("to none any more", x.refer(5, 1, -1), true);
+        due("to none any more", x.run(0), 1);
+        x.item(5, 64, 1, 0, false);
+        x.refer(5, 63, 5);
+        x.refer(5, 0, 5);
+        due("of the last place to none any more", x.refer(5, 63, -1), true);
+        x.clear(0);
+        add(x, 0, FOLLOW, 1, 5, 0, SET, 0, 63, 0, FOLLOW, 1, 5, 0);
+        due("the first place's stays", x.run(0), 1);
+        due("the first place's stays", x.ran(1), 2);
     }
 
     private static void referRefused() {
