@@ -734,7 +734,8 @@ public final class DataShrinker {
                     OctetSet.makeMasked(made, states, set, b);
                     break;
                 case SAME:
-                    takeSame(b, program.c[at]);
+                    compare(b, program.c[at]);
+                    OctetSet.makeOnly(made, asNumber(b == program.c[at]));
                     break;
                 default:
                     Arrays.fill(made, -1L);
@@ -799,12 +800,11 @@ public final class DataShrinker {
             return !OctetSet.isEmpty(made);
         }
 
-        private void takeSame(int k, int other) {
+        private void compare(int k, int other) {
             if (k != other) {
                 isCompared[k] = true;
                 isCompared[other] = true;
             }
-            OctetSet.makeOnly(made, asNumber(k == other));
         }
 
         private boolean takeFollow(int f, int from, int k, int q) {
