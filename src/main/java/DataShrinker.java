@@ -743,14 +743,21 @@ public final class DataShrinker {
             }
         }
 
-        private boolean takeLoad(int f, int from, int k, int q) {
-            long places = placesIn(from, q) & program.placesOf(k);
+        private boolean beginRead(int f, int k, long places) {
             if (places == 0) {
                 return false;
             }
             placesRead[k] |= places;
             chains.link(f, FUNCTIONS + k);
             Arrays.fill(made, 0);
+            return true;
+        }
+
+        private boolean takeLoad(int f, int from, int k, int q) {
+            long places = placesIn(from, q) & program.placesOf(k);
+            if (!beginRead(f, k, places)) {
+                return false;
+            }
             for (int place = Long.numberOfTrailingZeros(places); place < program.size[k]; place++) {
                 if ((places >>> place & 1) != 0) {
                     OctetSet.join(made, 0, stand, standAt(k, place));
@@ -809,12 +816,9 @@ public final class DataShrinker {
 
         private boolean takeFollow(int f, int from, int k, int q) {
             long places = placesIn(from, q) & program.references[k];
-            if (places == 0) {
+            if (!beginRead(f, k, places)) {
                 return false;
             }
-            placesRead[k] |= places;
-            chains.link(f, FUNCTIONS + k);
-            Arrays.fill(made, 0);
             for (int place = Long.numberOfTrailingZeros(places); place < program.size[k]; place++) {
                 if ((places >>> place & 1) != 0) {
                     int to = program.leadsTo[k * LONGEST + place];
